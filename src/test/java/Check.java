@@ -20,6 +20,10 @@ final class Check {
         due(call, want ? 1 : 0, got ? 1 : 0);
     }
 
+    int wrongs() {
+        return wrong;
+    }
+
     void end() {
         System.out.println(of + ": " + asked + " answers, " + wrong + " wrong");
         if (wrong != 0) {
