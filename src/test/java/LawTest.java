@@ -51,6 +51,8 @@ public final class LawTest {
         fault(12, 0, "sleep [[1=1]");
         fault(11, 0, "sleep [1=1]]");
         fault(11, 0, "sleep [1=1]=1");
+        fault(11, 0, "sleep [1=1]+1=1");
+        fault(14, 0, "sleep not[1=1]*1=1");
         fault(12, 0, "sleep [1=1] 1=1");
         fault(9, 0, "sleep not");
         fault(10, 0, "sleep not and 1=1");
@@ -63,6 +65,10 @@ public final class LawTest {
         fault(6, 0, "sleep bed=1");
         fault(6, 0, "sleep asleep=1");
         fault(6, 0, "sleep nows=1");
+        fault(6, 0, "sleep nowz=1");
+        fault(6, 0, "sleep zow=1");
+        fault(6, 0, "sleep bow=1");
+        fault(0, 0, "xake now=1");
         fault(6, 0, "sleep notnow=1");
         fault(9, 0, "sleep now1=1");
         fault(8, 0, "sleep 1 1=1");

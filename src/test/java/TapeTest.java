@@ -84,6 +84,9 @@ public final class TapeTest {
         fault(3, 0, "   ");
         fault(0, 0, "Company 1 0 0 0");
         fault(0, 0, "companys 1 0 0 0");
+        fault(0, 0, "companyz 1 0 0 0");
+        fault(0, 0, "dompany 1 0 0 0");
+        fault(0, 0, "compan 1 0 0 0");
         fault(0, 0, "sleep 1 0 0 0");
         fault(0, 0, "7");
         fault(0, 0, ";watch 1");
