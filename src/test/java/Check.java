@@ -1,6 +1,7 @@
 /** What the tests share: texts are fed, answers compared, and the wrong ones printed. */
 final class Check {
     private final String of;
+    private String sentence = "";
     private int asked = 0;
     private int wrong = 0;
 
@@ -8,16 +9,42 @@ final class Check {
         this.of = of;
     }
 
+    /** What is asked from here on is what this sentence of the document tells. */
+    void sentence(String promise, String words) {
+        sentence = ": " + promise + ", '" + words + "'";
+        due("the document", true, Document.says("## " + promise + " ") && Document.says(words));
+    }
+
     void due(String call, long want, long got) {
         asked++;
         if (got != want) {
             wrong++;
-            System.out.println(of + ": " + call + " answered " + got + ", due is " + want);
+            System.out.println(of + sentence + ": " + call + " answered " + got + ", due is " + want);
         }
     }
 
     void due(String call, boolean want, boolean got) {
         due(call, want ? 1 : 0, got ? 1 : 0);
+    }
+
+    /** All that can be seen of two objects without asking what would come; their laws and tapes aside. */
+    void same(String when, SleepWaves want, SleepWaves got) {
+        for (int what : new int[] {0, 1, 2, 4, 5, 6, 7, 8, 9, 10, 11, 13}) {
+            due(when + ": count(" + what + ")", want.count(what), got.count(what));
+        }
+        int companies = want.count(0);
+        for (int i = 0; i < companies; i++) {
+            for (int what = 0; what <= 7; what++) {
+                due(when + ": company(" + i + ", " + what + ")", want.company(i, what), got.company(i, what));
+            }
+            for (int what = 0; what <= 2; what++) {
+                due(when + ": why(" + i + ", " + what + ")", want.why(i, what), got.why(i, what));
+            }
+        }
+        int logged = want.count(10);
+        for (int ago = 1; ago <= logged; ago++) {
+            due(when + ": log(" + ago + ")", want.log(ago), got.log(ago));
+        }
     }
 
     int wrongs() {
@@ -29,6 +56,24 @@ final class Check {
         if (wrong != 0) {
             System.exit(1);
         }
+    }
+
+    /** What barracks() and law() answer for a fault of this kind at the ^ in the text. */
+    static int fault(int kind, String marked) {
+        return -2 - (1 + 8 * marked.indexOf('^') + kind);
+    }
+
+    static String unmarked(String marked) {
+        return marked.replace("^", "");
+    }
+
+    /** The clause so many times, with a ; between each two. */
+    static String times(int times, String clause) {
+        StringBuilder text = new StringBuilder();
+        for (int i = 0; i < times; i++) {
+            text.append(i == 0 ? "" : ";").append(clause);
+        }
+        return text.toString();
     }
 
     /** Feeds the text behind an empty tape; more than 400 bytes do not go. */
@@ -70,5 +115,12 @@ final class Check {
             }
         }
         return waves;
+    }
+
+    /** Plays so many quarters by a law. */
+    static void tick(SleepWaves waves, int law, int quarters) {
+        for (int done = 0; done < quarters; done += 96) {
+            waves.tick(law, Math.min(96, quarters - done));
+        }
     }
 }

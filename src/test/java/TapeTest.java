@@ -2,14 +2,6 @@
 public final class TapeTest {
     private static final Check CHECK = new Check("tape and barracks");
 
-    private static String repeated(String clause, int times) {
-        StringBuilder text = new StringBuilder();
-        for (int i = 0; i < times; i++) {
-            text.append(i == 0 ? "" : ";").append(clause);
-        }
-        return text.toString();
-    }
-
     private static void newObject() {
         SleepWaves waves = new SleepWaves();
         for (int what = 0; what <= 13; what++) {
@@ -138,15 +130,15 @@ public final class TapeTest {
     }
 
     private static void faultsOfTooMany() {
-        fault(16 * 12, 4, repeated("company 1 0 0 0", 13));
-        fault(16 * 12 + 1, 4, repeated("company 1 0 0 0", 12) + "; company 0");
-        fault(9 * 8, 4, repeated("bell 1 1", 9));
-        String duties = "company 1 0 0 0;" + repeated("duty 0 1 1", 9);
+        fault(16 * 12, 4, Check.times(13, "company 1 0 0 0"));
+        fault(16 * 12 + 1, 4, Check.times(12, "company 1 0 0 0") + "; company 0");
+        fault(9 * 8, 4, Check.times(9, "bell 1 1"));
+        String duties = "company 1 0 0 0;" + Check.times(9, "duty 0 1 1");
         fault(16 + 11 * 8, 4, duties);
         fault(8, 4, "watch 1;watch 1");
         fault(10, 4, "watch 0 ; watch 0");
         fault(8, 0, "watch 1;watches 1");
-        String eight = repeated("company 1 0 0 0", 8) + ";" + repeated("bell 1 1", 8) + ";" + repeated("duty 0 1 1", 8);
+        String eight = Check.times(8, "company 1 0 0 0") + ";" + Check.times(8, "bell 1 1") + ";" + Check.times(8, "duty 0 1 1");
         CHECK.due("24 clauses", 8, Check.barracks(new SleepWaves(), eight));
         fault(eight.length() + 1, 4, eight + ";watch 1");
         fault(eight.length() + 1, 4, eight + ";bell");
@@ -176,9 +168,9 @@ public final class TapeTest {
         CHECK.due("count(2)", 0, waves.count(2));
         CHECK.due("no company", 0, Check.barracks(waves, "bell 1 1"));
         CHECK.due("count(0)", 0, waves.count(0));
-        CHECK.due("twelve", 12, Check.barracks(waves, repeated("company 99 0 0 0", 12)));
+        CHECK.due("twelve", 12, Check.barracks(waves, Check.times(12, "company 99 0 0 0")));
         CHECK.due("count(5)", 1188, waves.count(5));
-        String full = repeated("company 1 0 0 0", 12) + ";";
+        String full = Check.times(12, "company 1 0 0 0") + ";";
         StringBuilder wide = new StringBuilder(full);
         while (wide.length() < 393) {
             wide.append(' ');
