@@ -115,7 +115,9 @@ public final class FaceTest {
     }
 
     public static void main(String[] args) throws java.io.IOException {
+        CHECK.sentence("Promise 1: A new object", "The constants: `NONE = -1`: None.");
         CHECK.due("NONE", -1, SleepWaves.NONE);
+        CHECK.sentence("Promise 1: A new object", "public final class SleepWaves { public static final int NONE = -1;");
         face();
         words();
         CHECK.end();

@@ -555,6 +555,9 @@ public final class ForesightEdgeTest {
         SleepWaves last = Check.told(Check.times(10, "company 1 0 0 0") + ";company 1 0 0 0;company 1 0 1 0;duty 11 0 95",
             "sleep company=9 or company=10");
         swap(last, 2, 12 * 9 + 11, 20);
+        // 0 with 3 is as good as 1 with 2: the lesser tells first
+        swap(Check.told("company 1 0 2 0;company 1 0 0 0;company 1 0 2 0;company 1 0 0 0",
+            "sleep now%2=company/2%2;wake 1=1"), 4, 3, 9);
         // the last of all: it alone brings the tired one to rest, as in the BED that they share 1 comes ahead of it
         SleepWaves tired = Check.told(Check.times(11, "company 1 0 0 0") + ";company 1 0 1 0;duty 11 0 95",
             "sleep company=1 or company=10");

@@ -76,6 +76,7 @@ public final class GossipEdgeTest {
         for (int n = 0; n < fromThird.length; n++) {
             CHECK.due("from 2, n " + n, fromThird[n], waves.mutiny(0, 2, 0, n));
         }
+        CHECK.due("from 0, whose HALL holds the lesser", 3, waves.mutiny(0, 0, 0, 1));
         // both of 0 and 1 could win 2: the lesser does, and the other wins 3
         SleepWaves two = hall(NOTHING);
         two.lie(4, true);
