@@ -1,3 +1,4 @@
+import java.lang.reflect.Array;
 import java.lang.reflect.Constructor;
 import java.lang.reflect.Field;
 import java.lang.reflect.Method;
@@ -5,6 +6,7 @@ import java.lang.reflect.Modifier;
 import java.nio.file.Files;
 import java.nio.file.Path;
 import java.util.Arrays;
+import java.util.IdentityHashMap;
 import java.util.TreeSet;
 import java.util.regex.Matcher;
 import java.util.regex.Pattern;
@@ -98,13 +100,18 @@ public final class FaceTest {
         }
         hold("signs 1 to 127", source.chars().allMatch(c -> c > 0 && c < 128));
         methodLengths(code);
+        madeInConstructorsAlone(code);
+    }
+
+    private static boolean isHead(String line) {
+        return line.matches(" {4}( {4})?(?!(for|if|while|switch) )[A-Za-z].*\\) \\{");
     }
 
     private static void methodLengths(String code) {
         int begin = 0;
         String[] lines = code.split("\n");
         for (int i = 0; i < lines.length; i++) {
-            if (lines[i].matches(" {4}( {4})?[A-Za-z].*\\) \\{")) {
+            if (isHead(lines[i])) {
                 begin = i;
             }
             if (lines[i].matches(" {4}( {4})?\\}")) {
@@ -114,12 +121,68 @@ public final class FaceTest {
         }
     }
 
-    public static void main(String[] args) throws java.io.IOException {
+    /** Rule 12 and the one room of a run: what a call makes would be counted for each call. */
+    private static void madeInConstructorsAlone(String code) {
+        boolean inConstructor = false;
+        for (String line : code.split("\n")) {
+            if (isHead(line)) {
+                inConstructor = line.matches(" +(public |private )?[A-Z]\\w+\\(.*\\) \\{");
+            }
+            boolean isField = line.matches(" {4}( {4})?(private )?(static )?final \\S+ \\w+ = new .*;");
+            if (line.matches(".*\\bnew\\b.*")) {
+                hold("made once for all calls: " + line.trim(), inConstructor || isField);
+            }
+        }
+    }
+
+    /** What hangs on an object: how many objects and arrays, and how many fields and elements they have. */
+    private static void weigh(Object one, IdentityHashMap<Object, Boolean> seen, int[] sums) throws IllegalAccessException {
+        if (one == null || seen.put(one, true) != null) {
+            return;
+        }
+        sums[0]++;
+        if (one.getClass().isArray()) {
+            sums[1] += Array.getLength(one);
+            for (int i = 0; i < Array.getLength(one) && one instanceof Object[]; i++) {
+                weigh(Array.get(one, i), seen, sums);
+            }
+            return;
+        }
+        for (Field field : one.getClass().getDeclaredFields()) {
+            if (Modifier.isStatic(field.getModifiers())) {
+                continue;
+            }
+            sums[1]++;
+            field.setAccessible(true);
+            if (!field.getType().isPrimitive()) {
+                weigh(field.get(one), seen, sums);
+            }
+        }
+    }
+
+    private static void room() throws IllegalAccessException {
+        SleepWaves waves = Check.told("company 9 0 0 9;company 9 0 1 9;bell 3 1;watch 9", "sleep tired>3;wake tired=0");
+        int[] before = new int[2];
+        weigh(waves, new IdentityHashMap<>(), before);
+        hold("objects and fields: " + Arrays.toString(before), before[0] <= 600 && before[1] <= 14000);
+        waves.tick(0, 96);
+        waves.image(0);
+        waves.turned(0, 3, 96, 0);
+        waves.swap(0, 192, 0);
+        waves.crest(0, 0, 48, 96, 0);
+        waves.back(0);
+        int[] behind = new int[2];
+        weigh(waves, new IdentityHashMap<>(), behind);
+        hold("as many as before: " + Arrays.toString(behind), Arrays.equals(before, behind));
+    }
+
+    public static void main(String[] args) throws java.io.IOException, IllegalAccessException {
         CHECK.sentence("Promise 1: A new object", "The constants: `NONE = -1`: None.");
         CHECK.due("NONE", -1, SleepWaves.NONE);
         CHECK.sentence("Promise 1: A new object", "public final class SleepWaves { public static final int NONE = -1;");
         face();
         words();
+        room();
         CHECK.end();
     }
 }
